@@ -900,24 +900,16 @@ public final class SorryPurses {
             int top = 0;
             for (int i = 0; i < length && i < code.length; i++) {
                 int c = code[i];
-                if (c >= ADD) {
-                    top = fold(c, top);
-                } else if (top < stack.length) {
-                    int v = c - VALUE;
+                int v = c - VALUE;
+                if (c < ADD && top < stack.length) {
                     stack[top] = v >= 0 && v < values.length ? values[v] : c;
                     top++;
+                } else if (c >= ADD && top >= 2) {
+                    stack[top - 2] = combine(c, stack[top - 2], stack[top - 1]);
+                    top--;
                 }
             }
             return Math.max(0, Math.min(MOST_MEANT, stack[0]));
-        }
-
-        /** The two values on top become one; answers how many there are then. */
-        private int fold(int operation, int top) {
-            if (top < 2 || top > stack.length) {
-                return top;
-            }
-            stack[top - 2] = combine(operation, stack[top - 2], stack[top - 1]);
-            return top - 1;
         }
 
         private static int combine(int operation, int a, int b) {
@@ -931,9 +923,9 @@ public final class SorryPurses {
                 case OVER:
                     return b == 0 ? 0 : a / b;
                 case LEAST:
-                    return Math.min(a, b);
+                    return a <= b ? a : b;
                 default:
-                    return Math.max(a, b);
+                    return a >= b ? a : b;
             }
         }
     }

@@ -363,6 +363,9 @@ public final class PromiseTest {
         deedFault(1, 180, many("day 1;", 30) + "dax 1;");
         SorryPurses x = town(STREET);
         Check.due("30 deeds", 30, deeds(x, many("day 1;", 30)));
+        Check.due("numbers up to 39 can stand", 0, deeds(x, "join 3 39;join 39 3;tell 39;pass 39 2;wrongly 39 2;"));
+        Check.due("no fault", -1, x.fault());
+        Check.due("all are refused", 5, x.told(7));
     }
 
     private static void p5deedsOneByOne() {
@@ -685,6 +688,19 @@ public final class PromiseTest {
         Check.refused("no other", NO_SUCH, () -> x.pays(0, 3, 0));
     }
 
+    /** Person 1 holds two claims of 9,998. */
+    private static SorryPurses twoLarge() {
+        SorryPurses x = town(THREE + many("wrong 0 1 999;", 20) + many("wrong 0 1 8;", 2));
+        StringBuilder first = new StringBuilder("join 0 20;");
+        StringBuilder second = new StringBuilder("join 10 21;");
+        for (int i = 1; i < 10; i++) {
+            first.append("join 0 ").append(i).append(';');
+            second.append("join 10 ").append(10 + i).append(';');
+        }
+        Check.due("joined", 20, deeds(x, first.toString()) + deeds(x, second.toString()));
+        return x;
+    }
+
     private static void p19cover() {
         Check.about("promise 19");
         SorryPurses x = town(STREET);
@@ -696,6 +712,9 @@ public final class PromiseTest {
         SorryPurses y = town(THREE + many("wrong 0 1 999;", 11));
         Check.due("beyond 9,999", 10989, y.cover(1, 9999));
         Check.due("below 9,999", 9990, y.cover(1, 9990));
+        SorryPurses z = twoLarge();
+        Check.due("far beyond", 19996, z.cover(1, 9999));
+        Check.due("one is enough", 9998, z.cover(1, 9998));
         Check.refused("n", BAD, () -> x.cover(1, 10000));
         Check.refused("n", BAD, () -> x.cover(1, -1));
         Check.refused("no person", NO_SUCH, () -> x.cover(3, -1));
@@ -707,8 +726,10 @@ public final class PromiseTest {
         Check.due("5, 20, 25", 3, x.ways(1));
         Check.due("one", 1, x.ways(2));
         Check.due("up to 9,999", 10, town(THREE + many("wrong 0 1 999;", 11)).ways(1));
+        Check.due("9,999 too", 21, town(THREE + many("wrong 0 1 999;", 10) + "wrong 0 1 9;").ways(1));
         Check.due("sums, not sets", 4, town(THREE + "wrong 0 1 1;wrong 0 1 1;wrong 0 1 2;").ways(1));
         Check.due("none", 0, town(THREE).ways(0));
+        Check.due("none beyond", 1, twoLarge().ways(1));
         Check.refused("no person", NO_SUCH, () -> x.ways(3));
         Check.refused("no person", NO_SUCH, () -> x.ways(-1));
     }
@@ -900,10 +921,14 @@ public final class PromiseTest {
         Check.due("the mixed ones", 6, x.till(1, 5, 6, 0));
         Check.due("both or none", 9, x.till(2, 0, 0, 1));
         Check.due("none means it", 1, x.till(-98, 99, -99, 98));
-        Check.refused("a", BAD, () -> x.till(100, 0, 0, 0));
-        Check.refused("b", BAD, () -> x.till(0, -100, 0, 0));
-        Check.refused("c", BAD, () -> x.till(0, 0, 100, 0));
-        Check.refused("d", BAD, () -> x.till(0, 0, 0, -100));
+        Check.due("the edges", 9, x.till(99, -99, -99, 99));
+        for (int beyond = -100; beyond <= 100; beyond += 200) {
+            int b = beyond;
+            Check.refused("a " + b, BAD, () -> x.till(b, 0, 0, 0));
+            Check.refused("b " + b, BAD, () -> x.till(0, b, 0, 0));
+            Check.refused("c " + b, BAD, () -> x.till(0, 0, b, 0));
+            Check.refused("d " + b, BAD, () -> x.till(0, 0, 0, b));
+        }
     }
 
     private static void p33extreme() {
@@ -974,6 +999,7 @@ public final class PromiseTest {
         Check.due("3", 3, x.lacking(1, 3));
         Check.due("0", 0, x.lacking(1, 0));
         Check.due("beyond all", 9974, x.lacking(1, 9999));
+        Check.due("two large ones", 1, twoLarge().lacking(1, 9999));
         Check.due("9", 9, town(THREE + many("wrong 0 1 999;", 11)).lacking(1, 9999));
         Check.refused("n", BAD, () -> x.lacking(1, 10000));
         Check.refused("n", BAD, () -> x.lacking(1, -1));
