@@ -1,19 +1,8 @@
-import java.nio.ByteBuffer;
-import java.nio.charset.StandardCharsets;
 import java.util.Arrays;
-import java.util.NoSuchElementException;
 import support.Check;
 
 /** Each promise of the document by hand: ordinary inputs, the edges that it names, wrong inputs. */
-public final class PromiseTest {
-    private static final Class<NoSuchElementException> NO_SUCH = NoSuchElementException.class;
-    private static final Class<IllegalArgumentException> BAD = IllegalArgumentException.class;
-    private static final Class<IllegalStateException> STATE = IllegalStateException.class;
-
-    private static final String THREE = "person 4;person 7;person 0;";
-    private static final String STREET = THREE
-            + "wrong 0 1 20;wrong 1 2 35;false 2 0 12;wrong 0 1 5;interest 10;bite 60;";
-
+public final class PromiseTest extends Play {
     public static void main(String[] args) {
         p1newObject();
         p2feed();
@@ -69,40 +58,6 @@ public final class PromiseTest {
         p46status();
         p47count();
         Check.end();
-    }
-
-    private static int put(SorryPurses x, String text) {
-        byte[] bytes = Arrays.copyOf(text.getBytes(StandardCharsets.ISO_8859_1), (text.length() + 19) / 20 * 20);
-        ByteBuffer b = ByteBuffer.wrap(bytes);
-        for (int i = 0; i < bytes.length; i += 20) {
-            x.feed(b.getInt(), b.getInt(), b.getInt(), b.getInt(), b.getInt());
-        }
-        return text.length();
-    }
-
-    private static SorryPurses town(String text) {
-        SorryPurses x = new SorryPurses();
-        int answer = x.town(put(x, text));
-        if (answer < 0) {
-            Check.due("town " + text, "a town", "fault " + answer + " at " + x.fault());
-        }
-        return x;
-    }
-
-    private static int law(SorryPurses x, String text) {
-        return x.law(put(x, text));
-    }
-
-    private static int deeds(SorryPurses x, String text) {
-        return x.deeds(put(x, text));
-    }
-
-    private static int book(SorryPurses x, String text) {
-        return x.book(put(x, text));
-    }
-
-    private static String many(String text, int times) {
-        return text.repeat(times);
     }
 
     private static void p1newObject() {
@@ -733,8 +688,6 @@ public final class PromiseTest {
         Check.refused("no person", NO_SUCH, () -> x.ways(3));
         Check.refused("no person", NO_SUCH, () -> x.ways(-1));
     }
-
-    private static final String FOUR = "person 1;person 1;person 1;person 1;";
 
     private static void p21even() {
         Check.about("promise 21");
