@@ -16,11 +16,13 @@ public final class EdgeAsksTest extends Play {
         paysAtTheEdges();
         covers();
         coversFar();
+        sumsOfFar();
         ways();
         evens();
         groups();
         groupsOfAlikeWays();
         oneDays();
+        oneDayNow();
         oneDayOfAlikeWays();
         lies();
         liesSixteen();
@@ -236,8 +238,11 @@ public final class EdgeAsksTest extends Play {
             law(x, words[i] + "/" + Math.max(1, part / 2) + "/" + (part > 1 ? 2 : 1));
             Check.due(words[i] + " at most, cut", 9, x.would(a[0], a[1], a[2], a[3], a[4]));
         }
-        law(x, "passed+day+held");
-        Check.due("0", 0, x.would(9, 9, 9, 9, 9));
+        for (String word : new String[] {"passed", "day", "held"}) {
+            law(x, word);
+            Check.due(word + " of a claim", word.equals("day") ? 9 : word.equals("held") ? 2 : 1, x.meant(0));
+            Check.due(word + " is 0", 0, x.would(9, 9, 9, 9, 9));
+        }
         Check.due("a law", 1, law(x, "size/101+told/999-age/999"));
         Check.due("99 and 1 less 1", 99, x.would(9999, 999, 9, 9, 999));
         SorryPurses y = new SorryPurses();
@@ -317,10 +322,47 @@ public final class EdgeAsksTest extends Play {
         Check.due("9,998 and 9,998", 19996, y.cover(1, 9999));
     }
 
+    /** 40 claims, the first 24 of 9,999 each: far more than what is asked for. */
+    private static void sumsOfFar() {
+        Check.about("sums of one who holds more than 200,000");
+        SorryPurses x = town(THREE + "interest 50;" + many("wrong 0 1 999;", 24));
+        for (int from = 0; from < 24; from += 4) {
+            StringBuilder four = new StringBuilder();
+            for (int day = 0; day < 3; day++) {
+                four.append("day 1;");
+                for (int k = from; k < from + 4; k++) {
+                    four.append("tell ").append(k).append(';');
+                }
+            }
+            deeds(x, four.toString());
+            deeds(x, four.toString());
+        }
+        deeds(x, many("slap 0 1 7;", 2) + "slap 0 1 64;slap 0 1 1;" + many("slap 2 1 999;", 10));
+        Check.due("in all", 24 * 9999 + 14 + 64 + 1 + 9990, x.person(1, 1));
+        // 0 1 7 8 14 15 and 64 more are twelve, each with 999 up to nine times; 0 1 7 8 with ten; 9,999; not 0
+        Check.due("how many", 10 * 12 + 4 + 1 - 1, x.ways(1));
+        Check.due("9,999", 9999, x.cover(1, 9999));
+        Check.due("9,990 and 8", 9998, x.cover(1, 9998));
+        Check.due("1", 1, x.cover(1, 1));
+        Check.due("beyond all small ones", 999, x.cover(1, 80));
+        Check.due("79", 79, x.cover(1, 79));
+        Check.due("none is short of 9,999", 0, x.lacking(1, 9999));
+        Check.due("9,990 and 1", 5, x.lacking(1, 9996));
+        Check.due("9,990 and 7", 0, x.lacking(1, 9997));
+        Check.due("pays with two", (1L << 24) | 1L << 27, x.pays(1, 2, 8));
+    }
+
     private static void ways() {
         Check.about("how many sums (1 to 9,999)");
         Check.due("one", 1, town(THREE + "wrong 0 1 999;").ways(1));
         Check.due("false ones, on anyone", 3, town(THREE + "false 0 1 1;wrong 2 1 2;").ways(1));
+        for (int first : new int[] {63, 64, 200}) {
+            for (int size = 1; size <= 130; size++) {
+                SorryPurses two = town(THREE + "wrong 0 1 " + first + ";wrong 0 1 " + size + ";");
+                Check.due(first + " and " + size, size == first ? 2 : 3, two.ways(1));
+                Check.due("together", first + size, two.cover(1, first + size));
+            }
+        }
         Check.due("alike ones", 24, town(THREE + many("wrong 0 1 1;", 24)).ways(1));
         SorryPurses x = town(THREE + many("wrong 0 1 999;", 10) + "wrong 0 1 9;wrong 0 1 1;");
         Check.due("up to 9,999", 10 * 4 + 3 - 1, x.ways(1));
@@ -391,6 +433,14 @@ public final class EdgeAsksTest extends Play {
         Check.due("group 0", 17, v.group(0));
         Check.due("group 1", 14, v.group(1));
         Check.due("three apologies", 3, v.even(0));
+        // worths -1 -2 -3 1 2 3, then -11 -2 -3 1 12 3: 2 5, and 0 1 3 4
+        SorryPurses u = town(FOUR + "person 1;person 1;wrong 0 3 1;wrong 1 4 2;wrong 2 5 3;");
+        Check.due("three groups", 3, u.even(1));
+        deeds(u, "slap 0 4 10;");
+        Check.due("two groups then", 2, u.even(1));
+        Check.due("four apologies", 4, u.even(0));
+        Check.due("group 0", 27, u.group(0));
+        Check.due("group 1", 36, u.group(1));
     }
 
     private static void oneDays() {
@@ -413,6 +463,17 @@ public final class EdgeAsksTest extends Play {
         for (int p = 0; p < 8; p++) {
             Check.due("says " + p, p, eight.says(p));
         }
+        Check.due("a smaller town", 1, eight.town(put(eight, THREE + "wrong 2 0 5;")));
+        Check.due("its day", 5, eight.oneDay());
+        Check.due("nobody there", -1, eight.says(0));
+        Check.due("nobody there", -1, eight.says(1));
+        Check.due("he says it", 0, eight.says(2));
+    }
+
+    private static void oneDayNow() {
+        Check.about("one day: claims that would be paid as all is now");
+        SorryPurses eight = town(many("person 1;", 8) + "wrong 0 1 999;wrong 1 2 999;wrong 2 3 999;wrong 3 4 999;"
+                + "wrong 4 5 999;wrong 5 6 999;wrong 6 7 999;wrong 7 0 999;");
         law(eight, "held*15");
         Check.due("as many as each holds now", 0, eight.oneDay());
         eight.bite(15);
@@ -741,6 +802,9 @@ public final class EdgeAsksTest extends Play {
         for (int[] w : want) {
             Check.due("lacking " + w[0], w[1], x.lacking(1, w[0]));
         }
+        SorryPurses one = town(THREE + "wrong 0 1 1;");
+        Check.due("1 of 1", 0, one.lacking(1, 1));
+        Check.due("1 of 2", 1, one.lacking(1, 2));
         SorryPurses y = town(THREE + many("wrong 0 1 999;", 10) + "wrong 0 1 10;");
         Check.due("10,000 are too many", 9, y.lacking(1, 9999));
         Check.due("9,990", 0, y.lacking(1, 9990));
@@ -797,6 +861,7 @@ public final class EdgeAsksTest extends Play {
         Check.due("together", 2, x.master(0));
         Check.due("false ones count", 0, x.master(1));
         Check.due("nothing is on him", -1, x.master(2));
+        Check.due("one sorrow", 2, town(THREE + "wrong 0 2 1;").master(0));
         deeds(x, "pass 4 1;");
         Check.due("it is home", -1, x.master(1));
     }
@@ -950,6 +1015,8 @@ public final class EdgeAsksTest extends Play {
             }
         }
         SorryPurses y = town(THREE);
+        Check.due("nothing stands: the fewest", 0, y.span(1, 20, 1, 0, 0, 0, 0));
+        Check.due("nothing stands: the most", 0, y.span(1, 20, 1, 0, 0, 1, 0));
         Check.due("all alike: the first", 20, y.span(1, 20, 1, 0, 0, 2, 0));
         Check.due("not another", 0, y.span(1, 20, 1, 0, 0, 2, 1));
     }

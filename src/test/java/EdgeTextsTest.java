@@ -302,6 +302,7 @@ public final class EdgeTextsTest extends Play {
     private static void townStartsAnew() {
         Check.about("day 0; no law, book, images, nothing to undo");
         SorryPurses x = lively();
+        deeds(x, "pass 0 2;day 3;tell 0;forgive 0;sorry 0;");
         Check.due("one was refused", 1, x.told(7));
         Check.due("town", 1, x.town(put(x, "person 6;person 5;false 1 0 8;")));
         long[] want = {2, 1, 1, 0, 10, 30, 0, 0};
@@ -324,6 +325,11 @@ public final class EdgeTextsTest extends Play {
             Check.due("claim 0 " + what, claim[what], x.claim(0, what));
         }
         Check.due("it can be told on day 0", 1, deeds(x, "tell 0;"));
+        for (String law : new String[] {"7", "1+1+1+1+1+1+1", "least[8,9]-(1+2)*3-4-5"}) {
+            law(x, law);
+            Check.due("town", 0, x.town(put(x, "person 2;")));
+            Check.due("no law behind " + law, 50 + 15 - 2, x.would(0, 0, 3, 0, 2));
+        }
         x.bite(99);
         Check.due("the same again", 0, x.town(0));
         Check.due("the bite without", 30, x.told(5));
@@ -488,6 +494,9 @@ public final class EdgeTextsTest extends Play {
         meant(6, "7*6/7");
         meant(0, "6/7*7");
         meant(35, "most[2+3*4,least[40,50-5*3]]");
+        meant(63, many("1+2*least[99,", 6) + "0" + many("]", 6));
+        meant(63, many("1+2*most[0,", 6) + "0" + many("]", 6));
+        meant(63, many("1+2*(", 6) + "0" + many(")", 6));
     }
 
     private static void deedNumbers() {

@@ -13,7 +13,9 @@ import support.Texts;
 /** Runs of calls by chance, each answer compared with a naive model of the document. */
 public final class ModelTest {
     private static final int RUNS = 1500;
-    private static final int CALLS = 400;
+    private static final int CALLS = 500;
+    /** A text takes 33 calls at the most, and an object is used for 512. */
+    private static final int LAST_TEXT = 479;
 
     private final Random random;
     private final Texts texts;
@@ -52,7 +54,7 @@ public final class ModelTest {
 
     private void run(List<Method> face) {
         text("town", texts.town());
-        for (int i = 0; i < CALLS && calls < 505 && Check.wrongSoFar() == 0; i++) {
+        for (int i = 0; i < CALLS && calls < LAST_TEXT && Check.wrongSoFar() == 0; i++) {
             int chance = random.nextInt(100);
             if (chance < 1) {
                 text("town", texts.town());
