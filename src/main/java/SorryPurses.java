@@ -432,13 +432,13 @@ public final class SorryPurses {
     public int span(int seed, int many, int n, int q, int z, int what, int person) throws IllegalArgumentException {
         needMonth(n, q, z);
         needArgument(isIn(many, 1, 20) && what >= 0 && what <= 2 && isIn(person, 0, town.people - 1));
-        int fewest = Integer.MAX_VALUE;
+        int fewest = 0;
         int most = 0;
         int first = 0;
         for (int i = 0; i < many; i++) {
             months.run(seed + i, n, q, z);
             int sorrows = months.world.standingSorrows();
-            fewest = Math.min(fewest, sorrows);
+            fewest = i == 0 ? sorrows : Math.min(fewest, sorrows);
             most = Math.max(most, sorrows);
             first += what == 2 && months.richest() == person ? 1 : 0;
         }
@@ -1277,7 +1277,7 @@ public final class SorryPurses {
         int leastErring() {
             weighAll();
             int first = 0;
-            int fewest = Integer.MAX_VALUE;
+            int fewest = MOST_CLAIMS + 1;
             for (int asked = 0; asked <= MOST_BITE; asked++) {
                 int many = errorsAt(asked, 1) + errorsAt(asked, 0);
                 if (many < fewest) {

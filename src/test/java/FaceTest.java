@@ -125,7 +125,19 @@ public final class FaceTest {
                 Check.due("sign at " + i, 0, source.charAt(i));
             }
         }
+        library(code);
         longMethods(source);
+    }
+
+    /** Rule 4: of the library's classes only the functions that it lists, none of their constants. */
+    private static void library(String code) {
+        List<String> listed = List.of("Integer.bitCount(", "Math.max(", "Math.min(", "Arrays.fill(",
+                "System.arraycopy(");
+        String classes = "Integer|Long|Math|Arrays|System|Character|String|List";
+        Matcher m = Pattern.compile("\\b(" + classes + ")\\.(\\w+\\(?)").matcher(code);
+        while (m.find()) {
+            Check.due("of the library: " + m.group(), 1, listed.contains(m.group()) ? 1 : 0);
+        }
     }
 
     /** A method begins with a line that ends with an open brace, and ends at the brace below its first letter. */
